@@ -1,0 +1,89 @@
+/** What the tests of the promises share: they say which answer is due, and end with exit code 1 if one was not given. */
+final class Due {
+    private final String name;
+    private int promise;
+    private int right;
+    private int wrong;
+
+    Due(String name) {
+        this.name = name;
+    }
+
+    void promise(int number) {
+        promise = number;
+    }
+
+    void is(String call, int got, int want) {
+        if (got == want) {
+            right++;
+            return;
+        }
+        wrong++;
+        System.out.println(name + ", promise " + promise + ": " + call + " answered " + got + ", due is " + want);
+    }
+
+    void end() {
+        System.out.println(name + ": " + right + " answers are as due, " + wrong + " are not");
+        if (wrong != 0 || right == 0) System.exit(1);
+    }
+
+    static int afterDraws(int z, int draws) {
+        for (int i = 0; i < draws; i++) z = z * 1103515245 + 12345;
+        return z;
+    }
+
+    /** A z with which the draws' rests come out as wanted: by, rest, by, rest, .. */
+    static int seedFor(int... byAndRest) {
+        for (int v = 0; v < 200_000_000; v++) {
+            int z = v;
+            boolean fits = true;
+            for (int i = 0; fits && i < byAndRest.length; i += 2) {
+                z = afterDraws(z, 1);
+                fits = (z >>> 8) % byAndRest[i] == byAndRest[i + 1];
+            }
+            if (fits) return v;
+        }
+        throw new IllegalStateException("no such seed");
+    }
+
+    /** Brings a text's bytes to an empty tape. */
+    static void feed(EchoFolk x, String text) {
+        for (int i = 0; i < text.length(); i += 12) x.feed(number(text, i), number(text, i + 4), number(text, i + 8));
+        x.trim(text.length());
+    }
+
+    static int text(EchoFolk x, String text) {
+        feed(x, text);
+        return x.text();
+    }
+
+    private static int number(String text, int from) {
+        int v = 0;
+        for (int i = from; i < from + 4; i++) v = v << 8 | (i < text.length() ? text.charAt(i) & 255 : 32);
+        return v;
+    }
+
+    /** A sheet of shorts with these places. */
+    static void shorts(EchoFolk x, int sheet, int... places) {
+        x.sheet(sheet, 0, places.length);
+        for (int i = 0; i < places.length; i++) x.mark(sheet, i, places[i]);
+    }
+
+    static void floats(EchoFolk x, int sheet, int... places) {
+        x.sheet(sheet, 1, places.length);
+        for (int i = 0; i < places.length; i++) x.mark(sheet, i, places[i]);
+    }
+
+    /** Speaks these words to a speaker, three at a time. */
+    static void words(EchoFolk x, int speaker, int... words) {
+        for (int i = 0; i < words.length; i += 3) {
+            x.speaks(speaker, words[i], i + 1 < words.length ? words[i + 1] : -1, i + 2 < words.length ? words[i + 2] : -1);
+        }
+    }
+
+    static int set(int... words) {
+        int set = 0;
+        for (int word : words) set |= 1 << word;
+        return set;
+    }
+}
