@@ -249,7 +249,10 @@ public final class EchoFolk {
         trial.become(now);
         for (int i = 0; i < n; i++) trial.passDay();
         int learnt = trial.speakers[speaker].wordSet() & ~now.speakers[speaker].wordSet();
-        return learnt == 0 ? NONE : Integer.numberOfTrailingZeros(learnt);
+        for (int word = 0; word < WORDS; word++) {
+            if ((learnt >>> word & 1) == 1) return word;
+        }
+        return NONE;
     }
 
     public int quiet(int n, int what) {

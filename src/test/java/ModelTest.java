@@ -12,7 +12,6 @@ public final class ModelTest {
     private static final int NONE = -1000000005;
     private static final int[] EDGES = {-1, 0, 1, 2, 3, 4, 5, 6, 7, 8, 9, 10, 11, 12, 13, 19, 20, 24, 25, 30, 31, 59, 60, 61, 96, 97, 99, 100, 101,
         200, 9999, 32767, 32768, 65536, 99999, 100000, -2, -99999, -100000, NONE, -1000000001, Integer.MAX_VALUE, Integer.MIN_VALUE};
-    private static final String[] MUCH_USED = {"speaks", "speaks", "says", "says", "days", "mark", "mark", "tell"};
     private static final String[] PIECES = {"e", "f", "w", "s", "l", "0", "7", "12", "9999", "12345", "x"};
     private static final String[] SIGNS = {"+", "-", "*", "/", "<", "=", ">", "&", "|", "+", "-", "%"};
 
@@ -51,31 +50,80 @@ public final class ModelTest {
         model = new Model();
         boolean wild = lot.nextInt(8) == 0;
         if (!wild && !begin()) return false;
-        while (calls.size() < 512) if (!someCall(wild)) return false;
+        boolean withTexts = lot.nextBoolean();
+        while (calls.size() < 512) if (!someCall(wild, withTexts)) return false;
         return true;
     }
 
     private boolean begin() throws Exception {
-        if (!call("seed", lot.nextInt()) || !call("deal", 1 + lot.nextInt(8))) return false;
-        if (lot.nextInt(6) == 0) {
-            for (int i = 0; i < 99; i++) if (!call("days", 100)) return false;
-            if (!call("days", 70 + lot.nextInt(31))) return false;
+        if (!call("seed", lot.nextInt())) return false;
+        if (lot.nextInt(6) == 0 && !nearTheLastDay()) return false;
+        for (int i = lot.nextInt(9); i > 0; i--) {
+            if (!call("speaker", lot.nextInt(lot.nextInt(4) == 0 ? 6 : 5), 1 + lot.nextInt(9), lot.nextInt(100))) return false;
         }
+        if (lot.nextBoolean() && !call("deal", 1 + lot.nextInt(8))) return false;
+        for (int i = 0; i < 8; i++) {
+            for (int k = lot.nextInt(5); k > 0; k--) if (!call("speaks", i, word(), word(), word())) return false;
+        }
+        if (lot.nextInt(10) == 0 && !manyTexts()) return false;
         return call("talk", lot.nextBoolean() ? 100 : lot.nextInt(101));
     }
 
-    private boolean someCall(boolean wild) throws Exception {
-        int what = wild ? 99 : lot.nextInt(30);
-        if (what == 0) return text();
+    private boolean nearTheLastDay() throws Exception {
+        for (int i = 0; i < 99; i++) if (!call("days", 100)) return false;
+        return call("days", 70 + lot.nextInt(31));
+    }
+
+    private boolean manyTexts() throws Exception {
+        for (int i = 0; i < 20; i++) if (!text()) return false;
+        return true;
+    }
+
+    private boolean someCall(boolean wild, boolean withTexts) throws Exception {
+        int what = wild ? 99 : lot.nextInt(60);
+        if (what == 0) return !withTexts || text();
         if (what == 1) return daysTold();
-        if (what == 2) return saying();
-        if (what == 3) return looks();
-        if (what == 4) return call("speaks", lot.nextInt(8), word(), word(), word());
-        if (what == 5) return call("says", lot.nextInt(8), lot.nextInt(8), lot.nextInt(6));
-        Method m = what == 6 ? method(MUCH_USED[lot.nextInt(MUCH_USED.length)]) : methods[lot.nextInt(methods.length)];
+        if (what < 4) return saying();
+        if (what == 4) return looks();
+        if (what == 5) return sheetsAndSlots();
+        if (what == 6) return lot.nextInt(8) > 0 || manyTold();
+        if (what < 16) return call("speaks", lot.nextInt(8), word(), word(), word());
+        if (what < 20) return call("says", lot.nextInt(8), lot.nextInt(8), lot.nextInt(6));
+        if (what < 24) return whatWillBe();
+        Method m = methods[lot.nextInt(methods.length)];
+        if (!wild && m.getName().equals("forgets") && lot.nextInt(4) > 0) return true;
         int[] args = new int[m.getParameterCount()];
         for (int i = 0; i < args.length; i++) args[i] = number(wild);
         return call(m.getName(), args);
+    }
+
+    private boolean whatWillBe() throws Exception {
+        int speaker = lot.nextInt(8);
+        int n = 1 + lot.nextInt(60);
+        return call("learns", speaker, n) && call("quiet", n, lot.nextInt(2)) && call("ears", speaker, n, lot.nextInt(2))
+            && call("spreads", lot.nextInt(20)) && call("behind", n, lot.nextInt(11));
+    }
+
+    private boolean manyTold() throws Exception {
+        for (int i = 0; i < 62; i++) if (!call("tell", lot.nextInt(3))) return false;
+        return call("check", 30);
+    }
+
+    private boolean sheetsAndSlots() throws Exception {
+        for (int i = 0; i < 2; i++) {
+            int sheet = lot.nextInt(4);
+            if (!call("sheet", sheet, lot.nextInt(2), lot.nextInt(25))) return false;
+            for (int k = 0; k < 5; k++) {
+                if (!call("mark", sheet, lot.nextInt(10), lot.nextInt(4) == 0 ? NONE : lot.nextInt(300) - 100)) return false;
+            }
+            if (lot.nextBoolean() && !call("pour", sheet)) return false;
+            if (!call("reads", sheet) || !call("copy", sheet, lot.nextInt(10), lot.nextInt(4), lot.nextInt(10), lot.nextInt(10))) return false;
+            if (!call("lay", lot.nextInt(5), lot.nextInt(4), lot.nextInt(4))) return false;
+        }
+        for (int slot = 0; slot < 5; slot++) {
+            if (!call("ask", slot, lot.nextInt(6)) || !call("item", slot, lot.nextInt(10)) || !call("rest", slot, lot.nextInt(5) - 2)) return false;
+        }
+        return true;
     }
 
     private int word() {
