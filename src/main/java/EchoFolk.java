@@ -230,7 +230,7 @@ public final class EchoFolk {
             case 0: return trial.spoken;
             case 1: return trial.lost;
             case 2: return trial.wordsTogether();
-            default: return trial.hasSpeaker(what - 3) ? trial.speakers[what - 3].wordSet() : BAD;
+            default: return trial.speakers[what - 3].wordSet();
         }
     }
 

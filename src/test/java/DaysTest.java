@@ -105,9 +105,11 @@ public final class DaysTest {
         due.is("from 0 to 1: 3, then 2, 3, 3", x.told(1, 4), 4);
         due.is("heard", x.heard(1, 1), 2);
         due.is("from 1 to 0: 3", x.heard(0, 3), 3);
+        x.talk(0);
+        due.is("in these days alone", x.days(1), 0);
         int[] bad = {0, -1, 101, Integer.MAX_VALUE, Integer.MIN_VALUE};
         for (int n : bad) due.is("days", x.days(n), BAD);
-        due.is("the day", x.count(1), 3);
+        due.is("the day", x.count(1), 4);
     }
 
     private static void theLastDay() {
@@ -135,10 +137,12 @@ public final class DaysTest {
         x.turns(2, 0);
         x.speaks(2, 2, 1, 9);
         due.is("all", x.folk(4), Due.set(1));
+        for (int i = 0; i < 3; i++) x.speaks(i, 0, 19, -1);
+        due.is("all", x.folk(4), Due.set(0, 1, 19));
         x.says(0, 1, 0);
         due.is("spoken", x.folk(0), 1);
         x.forgets(2);
-        due.is("lost", x.folk(1), 3);
+        due.is("lost", x.folk(1), 5);
         due.is("folk(5)", x.folk(5), BAD);
         due.is("folk(-1)", x.folk(-1), BAD);
     }

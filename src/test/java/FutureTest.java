@@ -40,6 +40,7 @@ public final class FutureTest {
         due.is("nothing changed", x.folk(1), 0);
         due.is("nothing changed", x.told(1, 4), 0);
         due.is("nothing changed", x.told(0, 3), 0);
+        due.is("there are none", new EchoFolk().behind(1, 3), BAD);
         x.says(0, 1, 0);
         due.is("in all", x.behind(0, 0), 1);
         int[][] bad = {{-1, 0}, {101, 0}, {1, -1}, {1, 5}, {1, 11}, {1, Integer.MAX_VALUE}, {1, Integer.MIN_VALUE}};
@@ -67,6 +68,11 @@ public final class FutureTest {
         due.is("the third day", x.spreads(2), 3);
         due.is("nothing changed", x.count(1), 0);
         due.is("never", x.spreads(19), NONE);
+        Due.words(x, 1, 18);
+        due.is("0 has it not", x.spreads(18) == 0 ? 1 : 0, 0);
+        x.talk(0);
+        due.is("never", x.spreads(18), NONE);
+        x.talk(100);
         x.turns(1, 5);
         due.is("but the deaf", x.spreads(1), 0);
         x.turns(0, 5);
@@ -109,6 +115,7 @@ public final class FutureTest {
         due.promise(22);
         EchoFolk x = twoWhoWillTalk(9);
         due.is("the first day", x.learns(1, 1), 3);
+        due.is("the second day", x.learns(1, 2), 3);
         due.is("the third day, the least", x.learns(1, 3), 2);
         due.is("0 learns nothing", x.learns(0, 3), NONE);
         Due.words(x, 1, 2, 3);
@@ -116,6 +123,10 @@ public final class FutureTest {
         int[][] bad = {{2, 1}, {-1, 1}, {0, 0}, {0, 101}, {0, -1}};
         for (int[] b : bad) due.is("learns", x.learns(b[0], b[1]), BAD);
         due.is("nothing changed", x.count(1), 0);
+        x.forgets(0);
+        x.forgets(1);
+        Due.words(x, 0, 7, 19, 0);
+        due.is("word 0", x.learns(1, 1), 0);
     }
 
     private static void quiet() {
@@ -161,6 +172,12 @@ public final class FutureTest {
         int[][] bad = {{2, 1, 0}, {-1, 1, 0}, {0, 0, 0}, {0, 61, 0}, {0, 1, 2}, {0, 1, -1}};
         for (int[] b : bad) due.is("ears", x.ears(b[0], b[1], b[2]), BAD);
         due.is("sixty", x.ears(1, 60, 1) > 0 ? 1 : 0, 1);
+        Due.words(x, 0, 6, 7);
+        x.forgets(0);
+        Due.words(x, 0, 1, 2, 3, 4, 5, 6, 7, 8, 9);
+        x.seed(Due.seedFor(1, 0, 2, 0, 1, 0, 9, 0));
+        due.is("all nine", x.ears(1, 1, 0), 9);
+        due.is("of them unlike", x.ears(1, 1, 1), 9);
     }
 
     private static void fee() {

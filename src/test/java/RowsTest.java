@@ -122,7 +122,11 @@ public final class RowsTest {
             Due.words(x, 0, 4, 5, 6);
             x.says(0, 1, 0);
             x.forgets(1);
-            x.speaker(5, 5, 5);
+            x.speaker(0, 5, 5);
+            due.is("a new one has said nothing", x.told(2, 3), 0);
+            due.is("a new one has heard nothing", x.told(2, 4), 0);
+            Due.words(x, 2, 17, 18);
+            x.says(2, 1, 0);
             x.talk(44);
             x.days(7);
             x.tell(1);

@@ -97,6 +97,8 @@ public final class SayingsTest {
         Due.words(x, 2, 4, 1, 3, 1);
         Due.words(x, 3, 3);
         due.is("2 and 7", x.who(0), Due.set(2, 7));
+        Due.words(x, 0, 3, 1);
+        due.is("0, 2 and 7", x.who(0), Due.set(0, 2, 7));
         Due.shorts(x, 0, -1);
         due.is("no words", x.who(0), SIZE);
         due.is("who(1)", x.who(1), NOTHING);

@@ -36,8 +36,10 @@ public final class SheetsTest {
         int[][] bad = {{4, 0, 1}, {-1, 0, 1}, {0, 2, 1}, {0, -2, 1}, {4, 0, -1}, {0, 2, -1}};
         for (int[] b : bad) due.is("sheet", x.sheet(b[0], b[1], b[2]), BAD);
         due.is("it stays", place(x, 0, 23), 0);
+        x.mark(0, 0, 5);
         x.mark(0, 1, 5);
         x.sheet(0, 0, 2);
+        due.is("all 0", place(x, 0, 0), 0);
         due.is("all 0", place(x, 0, 1), 0);
         due.is("missing, n any", x.sheet(0, -1, 25), 0);
         due.is("missing, n any", x.sheet(0, -1, -25), 0);
@@ -145,6 +147,9 @@ public final class SheetsTest {
         due.is("nothing stands first", x.copy(0, 99, 3, 0, 1), NOTHING);
         due.is("copy(4, ..)", x.copy(4, 0, 0, 0, 1), BAD);
         due.is("copy(.., -1, ..)", x.copy(3, 0, -1, 0, 1), BAD);
+        x.sheet(1, 0, 24);
+        due.is("24 places", x.copy(1, 0, 1, 0, 24), 24);
+        due.is("25 places", x.copy(1, 0, 1, 0, 25), INDEX);
         x.sheet(1, 1, 2);
         due.is("floats", x.copy(2, 0, 1, 0, 2), 2);
         due.is("no number", place(x, 1, 0), KIND);

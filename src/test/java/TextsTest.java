@@ -62,6 +62,18 @@ public final class TextsTest {
         due.is("blanks", Due.text(x, "  keep   (  e)+f "), 2);
         due.is("no blanks", Due.text(x, "keep(e)+f"), 3);
         due.is("no blanks", Due.text(x, "keep!e"), 4);
+        textsBehindFaults();
+    }
+
+    private static void textsBehindFaults() {
+        EchoFolk x = new EchoFolk();
+        StringBuilder faulty = new StringBuilder("fee 1");
+        while (faulty.length() < 90) faulty.append("+1");
+        faulty.append("+x");
+        for (int i = 0; i < 3; i++) due.is("a fault", Due.text(x, faulty.toString()), -100 - faulty.length() + 1);
+        due.is("fee 5*2", Due.text(x, "fee 5*2"), 0);
+        due.is("fee()", x.fee(), 10);
+        due.is("textTold(0, 1)", x.textTold(0, 1), 2);
     }
 
     private static void values() {
@@ -153,6 +165,12 @@ public final class TextsTest {
         fault("fee (1)2", 7);
         fault("fee 1,", 5);
         fault("fee \t1", 4);
+        fault("fee 1\0", 5);
+        fault("fee \0", 4);
+        fault("\0fee 1", 0);
+        fault("bee 1", 0);
+        fault("xeep 1", 0);
+        fault("wine 1", 0);
         fault("fee 1\n", 5);
         fault("fee \u00e91", 4);
         fault("fee fee", 4);
@@ -170,6 +188,12 @@ public final class TextsTest {
         fault("fee ss", 4);
         fault("fee sl", 4);
         fault("fee S", 4);
+        fault("fee sz", 4);
+        fault("fee sa", 4);
+        fault("fee s`", 5);
+        fault("fee s{", 5);
+        fault("fee 1:", 5);
+        fault("fee 1/", 6);
         fault("fee 12345", 4);
         fault("fee 00001", 4);
         fault("fee 1+12345", 6);
