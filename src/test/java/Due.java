@@ -1,7 +1,11 @@
-/** What the tests of the promises share: they say which answer is due, and end with exit code 1 if one was not given. */
+/**
+ * What the tests of the promises share: they name a sentence of the document, say which answers are due by it, and end
+ * with exit code 1 if one was not given. SentencesTest looks that the sentences stand in the document, and that all do.
+ */
 final class Due {
     private final String name;
-    private int promise;
+    private String sentence = "no sentence";
+    private int underSentence = 1;
     private int right;
     private int wrong;
 
@@ -9,20 +13,35 @@ final class Due {
         this.name = name;
     }
 
-    void promise(int number) {
-        promise = number;
+    /** What comes now tests this piece of a promise. */
+    void promise(int number, String piece) {
+        begin("promise " + number + ", '" + piece + "'");
+    }
+
+    /** What comes now tests this piece of the section Terms (0: what stands ahead of its 1). */
+    void term(int number, String piece) {
+        begin("term " + number + ", '" + piece + "'");
+    }
+
+    private void begin(String next) {
+        if (underSentence == 0) wrong("has no test");
+        sentence = next;
+        underSentence = 0;
     }
 
     void is(String call, int got, int want) {
-        if (got == want) {
-            right++;
-            return;
-        }
+        underSentence++;
+        if (got == want) right++;
+        else wrong(call + " answered " + got + ", due is " + want);
+    }
+
+    private void wrong(String what) {
         wrong++;
-        System.out.println(name + ", promise " + promise + ": " + call + " answered " + got + ", due is " + want);
+        System.out.println(name + ", " + sentence + ": " + what);
     }
 
     void end() {
+        if (underSentence == 0) wrong("has no test");
         System.out.println(name + ": " + right + " answers are as due, " + wrong + " are not");
         if (wrong != 0 || right == 0) System.exit(1);
     }
