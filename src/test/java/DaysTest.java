@@ -23,12 +23,6 @@ public final class DaysTest {
         due.end();
     }
 
-    private static EchoFolk plain(int many) {
-        EchoFolk x = new EchoFolk();
-        for (int i = 0; i < many; i++) x.speaker(0, 9, 0);
-        return x;
-    }
-
     private static void draws() {
         due.term(2, "z is told (1 at first). A draw: z becomes z * 1103515245 + 12345 (an int); it gives z >>> 8.");
         EchoFolk x = new EchoFolk();
@@ -53,7 +47,7 @@ public final class DaysTest {
 
     private static void aSaying() {
         due.term(2, "SAYS: a SAYING is a row of WORDS (12 at most, one at least).");
-        EchoFolk x = plain(1);
+        EchoFolk x = Due.plain(1);
         Due.words(x, 0, 1);
         Due.shorts(x, 0);
         due.is("no word", x.breaths(0, 0), SIZE);
@@ -69,7 +63,7 @@ public final class DaysTest {
 
     private static void pieces() {
         due.term(2, "A SPEAKER can say it by b BREATHS, if it is b pieces one behind the other, each a row of 1 or more, GOES at most, WORDS that stand one behind the other in its HEARD as well.");
-        EchoFolk x = plain(1);
+        EchoFolk x = Due.plain(1);
         Due.words(x, 0, 1, 2, 3, 4, 1, 3);
         int[][] sayings = {{1, 2, 3}, {1, 2, 3, 4}, {4, 1, 3}, {1, 3}, {1, 4}, {2, 4}, {3, 2, 1}, {1, 3, 4, 1}, {3, 1}, {2, 3, 1, 2, 3}, {5}, {1, 2, 5}};
         int[] breaths = {1, 2, 1, 1, 2, 2, 3, 2, 2, 2, NONE, NONE};
@@ -83,7 +77,7 @@ public final class DaysTest {
         due.term(2, "A DAY: (1) a draw; if its rest by 100 is below TALK (and there are 2 SPEAKERS or more)");
         int[][] talkAndRest = {{50, 49, 1}, {50, 50, 0}, {0, 0, 0}, {1, 0, 1}, {1, 1, 0}, {99, 98, 1}, {99, 99, 0}, {100, 99, 1}, {100, 0, 1}};
         for (int[] t : talkAndRest) {
-            EchoFolk x = plain(2);
+            EchoFolk x = Due.plain(2);
             Due.words(x, 0, 1);
             Due.words(x, 1, 1);
             x.talk(t[0]);
@@ -97,7 +91,7 @@ public final class DaysTest {
     private static void twoOrMore() {
         due.term(2, "(and there are 2 SPEAKERS or more)");
         for (int many = 0; many <= 2; many++) {
-            EchoFolk x = plain(many);
+            EchoFolk x = Due.plain(many);
             for (int i = 0; i < many; i++) x.speaks(i, 1, 2, 3);
             x.talk(100);
             due.is(many + " speakers", x.days(1), many == 2 ? 1 : 0);
@@ -109,7 +103,7 @@ public final class DaysTest {
     private static void theOneWhoSpeaks() {
         due.term(2, ": a draw, the one who speaks is its rest by how many there are;");
         for (int first = 0; first < 8; first++) {
-            EchoFolk x = plain(8);
+            EchoFolk x = Due.plain(8);
             for (int i = 0; i < 8; i++) x.speaks(i, i, -1, -1);
             x.seed(Due.seedFor(100, 0, 8, first));
             due.is("days(1)", x.days(1), 1);
@@ -121,7 +115,7 @@ public final class DaysTest {
         due.term(2, "one more draw, the other one is the rest by how many less 1 (those from the first one on are 1 more).");
         for (int first = 0; first < 3; first++) {
             for (int rest = 0; rest < 2; rest++) {
-                EchoFolk x = plain(3);
+                EchoFolk x = Due.plain(3);
                 for (int i = 0; i < 3; i++) x.speaks(i, i, i, i);
                 x.seed(Due.seedFor(100, 0, 3, first, 2, rest, 3, 2));
                 due.is("days(1)", x.days(1), 1);
@@ -136,7 +130,7 @@ public final class DaysTest {
     private static void thePiece() {
         due.term(2, "one more draw; it speaks the piece of its HEARD that begins at the rest by how many WORDS it has, as many as it GOES (fewer, if there are no more)");
         for (int rest = 0; rest < 5; rest++) {
-            EchoFolk x = plain(2);
+            EchoFolk x = Due.plain(2);
             Due.words(x, 0, 10, 11, 12, 13, 14);
             int z = Due.seedFor(100, 0, 2, 0, 1, 0, 5, rest);
             x.seed(z);
@@ -152,7 +146,7 @@ public final class DaysTest {
     private static void withoutWords() {
         due.term(2, "If its HEARD has WORDS: one more draw;");
         for (int words = 0; words < 2; words++) {
-            EchoFolk x = plain(2);
+            EchoFolk x = Due.plain(2);
             Due.words(x, 1, 1, 2);
             if (words == 1) x.speaks(0, 5, -1, -1);
             int z = Due.seedFor(100, 0, 2, 0);
@@ -166,7 +160,7 @@ public final class DaysTest {
 
     private static void theOtherOneHears() {
         due.term(2, ": the other one HEARS it (SAID of the one more by how many these are; SPOKEN 1 more).");
-        EchoFolk x = plain(2);
+        EchoFolk x = Due.plain(2);
         Due.words(x, 0, 1, 2, 3);
         x.set(1, 1, 2);
         x.seed(Due.seedFor(100, 0, 2, 0, 1, 0, 3, 0));
@@ -186,7 +180,7 @@ public final class DaysTest {
 
     private static void oneMoreDay() {
         due.term(2, "THE DAY is 1 more.");
-        EchoFolk x = plain(2);
+        EchoFolk x = Due.plain(2);
         for (int i = 1; i < 5; i++) {
             if (i == 3) Due.words(x, 0, 1);
             x.talk(i % 2 * 100);
@@ -197,7 +191,7 @@ public final class DaysTest {
 
     private static void days() {
         due.promise(14, "n (1 .. 100) DAYS (no more than up to 9999): SPOKEN in them.");
-        EchoFolk x = plain(2);
+        EchoFolk x = Due.plain(2);
         Due.words(x, 0, 1);
         Due.words(x, 1, 1);
         x.talk(100);
@@ -218,7 +212,7 @@ public final class DaysTest {
 
     private static void daysFromALot() {
         due.promise(14, "DAYS (no more than up to 9999): SPOKEN in them.");
-        EchoFolk x = plain(2);
+        EchoFolk x = Due.plain(2);
         Due.words(x, 0, 1, 2, 3);
         x.talk(100);
         x.seed(Due.seedFor(1, 0, 2, 0, 1, 0, 3, 2, 1, 0, 2, 1, 1, 0, 1, 0, 1, 0, 2, 0, 1, 0, 4, 1));

@@ -65,6 +65,13 @@ final class Due {
         throw new IllegalStateException("no such seed");
     }
 
+    /** So many speakers of the plain kind, ear 9, fame 10 and their number. */
+    static EchoFolk plain(int many) {
+        EchoFolk x = new EchoFolk();
+        for (int i = 0; i < many; i++) x.speaker(0, 9, 10 + i);
+        return x;
+    }
+
     /** Brings a text's bytes to an empty tape. */
     static void feed(EchoFolk x, String text) {
         for (int i = 0; i < text.length(); i += 12) x.feed(number(text, i), number(text, i + 4), number(text, i + 8));

@@ -23,15 +23,9 @@ public final class FutureTest {
         due.end();
     }
 
-    private static EchoFolk plain(int many) {
-        EchoFolk x = new EchoFolk();
-        for (int i = 0; i < many; i++) x.speaker(0, 9, 0);
-        return x;
-    }
-
     /** On the first day 0 speaks 3 to 1, on the second 1 speaks its oldest word to 0, on the third 0 speaks 2, 3, 3 to 1. */
     private static EchoFolk twoWhoWillTalk() {
-        EchoFolk x = plain(2);
+        EchoFolk x = Due.plain(2);
         Due.words(x, 0, 1, 2, 3);
         x.talk(100);
         x.seed(Due.seedFor(1, 0, 2, 0, 1, 0, 3, 2, 1, 0, 2, 1, 1, 0, 1, 0, 1, 0, 2, 0, 1, 0, 4, 1));
@@ -99,7 +93,7 @@ public final class FutureTest {
 
     private static void behind() {
         due.promise(20, "BEHIND n (0 .. 100) DAYS: what 0 SPOKEN, 1 LOST, 2 how many WORDS; 3 and k: WORDS of SPEAKER k, as a set.");
-        EchoFolk x = plain(8);
+        EchoFolk x = Due.plain(8);
         for (int i = 0; i < 8; i++) x.speaks(i, 2 * i, 2 * i + 1, -1);
         x.talk(100);
         due.is("none", x.behind(0, 0), 0);
@@ -112,7 +106,7 @@ public final class FutureTest {
         due.promise(20, "BAD.");
         int[][] bad = {{-1, 0}, {101, 0}, {1, -1}, {1, 11}, {0, 11}, {MOST, 0}, {LEAST, 0}, {1, MOST}, {1, LEAST}};
         for (int[] b : bad) due.is("behind", x.behind(b[0], b[1]), BAD);
-        EchoFolk y = plain(2);
+        EchoFolk y = Due.plain(2);
         due.is("the last one", y.behind(1, 4), 0);
         due.is("behind the last one", y.behind(1, 5), BAD);
         due.is("there are none", new EchoFolk().behind(1, 3), BAD);
@@ -145,7 +139,7 @@ public final class FutureTest {
     private static void spreadsWithin200Days() {
         due.term(3, "(0 .. 200)");
         for (int day = 199; day <= 201; day++) {
-            EchoFolk x = plain(2);
+            EchoFolk x = Due.plain(2);
             Due.words(x, 0, 7);
             x.talk(1);
             x.seed(firstLessonOn(day));
@@ -172,7 +166,7 @@ public final class FutureTest {
 
     private static void spreads() {
         due.promise(21, "SPREADS of a WORD.");
-        EchoFolk x = plain(1);
+        EchoFolk x = Due.plain(1);
         Due.words(x, 0, 0, 19);
         due.is("the first word", x.spreads(0), 0);
         due.is("the last word", x.spreads(19), 0);
@@ -209,7 +203,7 @@ public final class FutureTest {
 
     private static void learns() {
         due.promise(22, "LEARNS of a SPEAKER, for n (1 .. 100).");
-        EchoFolk x = plain(2);
+        EchoFolk x = Due.plain(2);
         Due.words(x, 0, 5);
         x.talk(100);
         x.seed(Due.seedFor(100, 0, 2, 0));
@@ -226,7 +220,7 @@ public final class FutureTest {
     private static void quietest() {
         due.term(3, "QUIET for n: the SPEAKER without whose HEARD (none now) SPOKEN behind n DAYS is least; of several the least.");
         for (int first = 0; first < 3; first++) {
-            EchoFolk x = plain(3);
+            EchoFolk x = Due.plain(3);
             for (int i = 0; i < 3; i++) x.speaks(i, 1, -1, -1);
             x.talk(100);
             x.says(0, 1, 0);
@@ -240,7 +234,7 @@ public final class FutureTest {
         EchoFolk y = twoWhoWillTalk();
         due.is("1 has nothing to say", y.quiet(3, 0), 0);
         due.is("without what 0 has", y.quiet(3, 1), 0);
-        EchoFolk z = plain(2);
+        EchoFolk z = Due.plain(2);
         z.speaks(0, 1, -1, -1);
         z.speaks(1, 1, -1, -1);
         z.talk(100);
@@ -251,12 +245,12 @@ public final class FutureTest {
 
     private static void quiet() {
         due.promise(23, "QUIET for n (1 .. 100): what 0 the SPEAKER, 1 SPOKEN.");
-        EchoFolk x = plain(1);
+        EchoFolk x = Due.plain(1);
         x.speaks(0, 1, 2, 3);
         due.is("one day", x.quiet(1, 0), 0);
         due.is("a hundred days", x.quiet(100, 0), 0);
         due.is("a hundred days", x.quiet(100, 1), 0);
-        EchoFolk y = plain(8);
+        EchoFolk y = Due.plain(8);
         y.speaks(7, 1, 2, 3);
         y.talk(100);
         y.seed(Due.seedFor(1, 0, 8, 7));
@@ -272,7 +266,7 @@ public final class FutureTest {
 
     private static void bestEar() {
         due.term(3, "EARS for n: the EAR 1 .. 9 of a SPEAKER with which it has most unlike WORDS behind n DAYS; of several the least.");
-        EchoFolk x = plain(2);
+        EchoFolk x = Due.plain(2);
         x.set(1, 1, 1);
         Due.words(x, 0, 1, 2, 3, 4, 4, 4, 5);
         x.turns(0, 4);
@@ -299,7 +293,7 @@ public final class FutureTest {
 
     private static void ears() {
         due.promise(24, "EARS for n (1 .. 60) of a SPEAKER: what 0 EAR, 1 how many.");
-        EchoFolk x = plain(2);
+        EchoFolk x = Due.plain(2);
         x.set(1, 1, 1);
         Due.words(x, 0, 1, 2);
         x.talk(100);
@@ -312,7 +306,7 @@ public final class FutureTest {
             most = Math.max(most, Integer.bitCount(x.behind(60, 4)));
         }
         due.is("sixty days", x.ears(1, 60, 1), most);
-        EchoFolk none = plain(1);
+        EchoFolk none = Due.plain(1);
         due.is("nothing will be heard", none.ears(0, 60, 0), 1);
         due.is("nothing will be heard", none.ears(0, 60, 1), 0);
         Due.text(x, "keep e-3");
@@ -325,7 +319,7 @@ public final class FutureTest {
 
     private static void fee() {
         due.promise(25, "What fee gives.");
-        EchoFolk x = plain(2);
+        EchoFolk x = Due.plain(2);
         due.is("without a text", x.fee(), 0);
         Due.words(x, 0, 1, 2, 3);
         x.says(0, 1, 0);
@@ -345,7 +339,7 @@ public final class FutureTest {
 
     private static void fine() {
         due.promise(26, "What fine gives for a SPEAKER.");
-        EchoFolk x = plain(2);
+        EchoFolk x = Due.plain(2);
         x.set(0, 2, 7);
         x.set(1, 2, 8);
         Due.words(x, 0, 1, 2, 3);

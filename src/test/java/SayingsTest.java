@@ -20,15 +20,9 @@ public final class SayingsTest {
         due.end();
     }
 
-    private static EchoFolk plain(int many) {
-        EchoFolk x = new EchoFolk();
-        for (int i = 0; i < many; i++) x.speaker(0, 9, 0);
-        return x;
-    }
-
     private static void asFarAsWords() {
         due.term(3, "as far as they are WORDS 0 .. 19 (it ends ahead of the first that is not).");
-        EchoFolk x = plain(1);
+        EchoFolk x = Due.plain(1);
         Due.words(x, 0, 0, 19);
         int[][] shorts = {{0, 19}, {0, 19, 20, 7}, {0, 19, -1, 7}, {0, 20}, {-1, 0}, {20, 0}, {0, -32768}, {0, 32767}};
         int[] breaths = {1, 1, 1, 1, SIZE, SIZE, 1, 1};
@@ -46,7 +40,7 @@ public final class SayingsTest {
 
     private static void twelveAtMost() {
         due.term(3, "A SAYING by a SHEET: its places (12 at most, the first ones),");
-        EchoFolk x = plain(1);
+        EchoFolk x = Due.plain(1);
         Due.words(x, 0, 1, 2, 3, 4, 5, 6, 7, 8, 9, 10, 11, 12);
         Due.shorts(x, 0, 1, 2, 3, 4, 5, 6, 7, 8, 9, 10, 11, 12);
         due.is("twelve", x.breaths(0, 0), 4);
@@ -67,7 +61,7 @@ public final class SayingsTest {
 
     private static void fewest() {
         due.term(3, "BREATHS: the fewest by which a SPEAKER can say it.");
-        EchoFolk x = plain(1);
+        EchoFolk x = Due.plain(1);
         Due.words(x, 0, 1, 2, 7, 2, 3, 4, 7, 1, 2, 3);
         Due.shorts(x, 0, 1, 2, 3, 4);
         due.is("123 | 4 or 1 | 234, not 12 | 3 | 4", x.breaths(0, 0), 2);
@@ -85,7 +79,7 @@ public final class SayingsTest {
 
     private static void firstWanting() {
         due.term(3, "WANTING: the first of its WORDS that no SPEAKER has HEARD.");
-        EchoFolk x = plain(2);
+        EchoFolk x = Due.plain(2);
         Due.shorts(x, 0, 3, 1, 5);
         due.is("nobody has a word", x.wanting(0), 3);
         x.speaks(1, 3, -1, -1);
@@ -100,7 +94,7 @@ public final class SayingsTest {
 
     private static void those() {
         due.term(3, "WHO: those that can say it.");
-        EchoFolk x = plain(8);
+        EchoFolk x = Due.plain(8);
         Due.shorts(x, 0, 3, 1);
         due.is("nobody", x.who(0), 0);
         Due.words(x, 7, 1, 3);
@@ -115,7 +109,7 @@ public final class SayingsTest {
 
     private static void breaths() {
         due.promise(16, "BREATHS of a SPEAKER for A SAYING by a SHEET.");
-        EchoFolk x = plain(2);
+        EchoFolk x = Due.plain(2);
         Due.words(x, 0, 1, 2, 3, 4, 5);
         Due.words(x, 1, 5, 4, 3, 2, 1);
         Due.shorts(x, 3, 1, 2, 3, 4, 5);
@@ -183,7 +177,7 @@ public final class SayingsTest {
 
     private static void teacherByFewest() {
         due.term(3, "would let the SPEAKER say it by fewest BREATHS; of several the least.");
-        EchoFolk x = plain(5);
+        EchoFolk x = Due.plain(5);
         Due.words(x, 0, 1);
         Due.words(x, 1, 7, 4, 3, 2, 1);
         Due.words(x, 2, 1, 2, 3, 4, 7);
@@ -202,7 +196,7 @@ public final class SayingsTest {
 
     private static void teacherSpeaksAll() {
         due.term(3, "TEACHER of a SPEAKER: the other one who, if it spoke all of its own HEARD now (at once, though it GOES less far),");
-        EchoFolk x = plain(2);
+        EchoFolk x = Due.plain(2);
         Due.words(x, 1, 1, 2, 3, 4, 5, 6, 7, 8, 9, 10, 11, 12);
         x.turns(0, 4);
         Due.text(x, "keep 12");
@@ -232,7 +226,7 @@ public final class SayingsTest {
 
     private static void teacherOfOneWhoForgets() {
         due.term(3, "would let the SPEAKER say it by fewest BREATHS");
-        EchoFolk x = plain(3);
+        EchoFolk x = Due.plain(3);
         x.set(2, 1, 1);
         Due.words(x, 0, 1, 2, 3);
         Due.words(x, 1, 4, 5, 6, 7);
@@ -253,13 +247,13 @@ public final class SayingsTest {
 
     private static void teacher() {
         due.promise(19, "TEACHER of a SPEAKER: what 0 the other one, 1 BREATHS then.");
-        EchoFolk x = plain(8);
+        EchoFolk x = Due.plain(8);
         Due.words(x, 7, 1, 2, 3, 4);
         Due.shorts(x, 3, 1, 2, 3, 4);
         due.is("what 0", x.teacher(3, 0, 0), 7);
         due.is("what 1", x.teacher(3, 0, 1), 2);
         due.promise(19, "BAD; NOTHING; SIZE: it has no WORDS; NONE: with none it can.");
-        EchoFolk y = plain(2);
+        EchoFolk y = Due.plain(2);
         Due.shorts(y, 3, 1);
         int[][] bad = {{4, 0, 0}, {-1, 0, 0}, {3, 2, 0}, {3, -1, 0}, {3, 0, 2}, {3, 0, -1}, {0, 2, 0}, {0, 0, 2},
             {MOST, 0, 0}, {LEAST, 0, 0}, {3, MOST, 0}, {3, LEAST, 0}, {3, 0, MOST}, {3, 0, LEAST}};
@@ -272,7 +266,7 @@ public final class SayingsTest {
         due.is("no places", y.teacher(0, 0, 0), SIZE);
         Due.shorts(y, 0, 20);
         due.is("no words", y.teacher(0, 0, 1), SIZE);
-        EchoFolk alone = plain(1);
+        EchoFolk alone = Due.plain(1);
         Due.words(alone, 0, 1);
         Due.shorts(alone, 0, 1);
         due.is("there is no other one", alone.teacher(0, 0, 0), NONE);

@@ -30,15 +30,9 @@ public final class SpeakersTest {
         due.end();
     }
 
-    private static EchoFolk plain(int many) {
-        EchoFolk x = new EchoFolk();
-        for (int i = 0; i < many; i++) x.speaker(0, 9, 10 + i);
-        return x;
-    }
-
     private static void sets() {
         due.term(0, "Sets of SPEAKERS, of WORDS are told by bits.");
-        EchoFolk x = plain(8);
+        EchoFolk x = Due.plain(8);
         x.speaks(7, 0, -1, -1);
         due.is("word 0", x.told(7, 5), 1);
         x.speaks(7, 19, 19, -1);
@@ -51,7 +45,7 @@ public final class SpeakersTest {
 
     private static void words() {
         due.term(1, "WORDS are 0 .. 19.");
-        EchoFolk x = plain(1);
+        EchoFolk x = Due.plain(1);
         due.is("the least", x.speaks(0, 0, -1, -1), 1);
         due.is("the greatest", x.speaks(0, 19, -1, -1), 2);
         due.is("above it", x.speaks(0, 20, -1, -1), BAD);
@@ -75,7 +69,7 @@ public final class SpeakersTest {
 
     private static void twelveAtMost() {
         due.term(1, "HEARD, a row of WORDS (12 at most, oldest first; none at first),");
-        EchoFolk x = plain(1);
+        EchoFolk x = Due.plain(1);
         due.is("none at first", x.told(0, 4), 0);
         due.is("none at first", x.heard(0, 0), NONE);
         Due.words(x, 0, 1, 2, 3, 4, 5, 6, 7, 8, 9, 10, 11);
@@ -109,7 +103,7 @@ public final class SpeakersTest {
 
     private static void talkAndTheRest() {
         due.term(1, "TALK 0 .. 100 (50 at first).");
-        EchoFolk x = plain(2);
+        EchoFolk x = Due.plain(2);
         due.is("talk(0)", x.talk(0), 50);
         due.is("talk(100)", x.talk(100), 0);
         due.is("talk(-1)", x.talk(-1), BAD);
@@ -145,7 +139,7 @@ public final class SpeakersTest {
         due.is("no image", x.back(), NO);
         due.is("no image", x.check(1), NO);
         due.is("spoken", x.fee(), 0);
-        EchoFolk other = plain(3);
+        EchoFolk other = Due.plain(3);
         due.is("objects are their own", new EchoFolk().count(0), other.count(0) - 3);
     }
 
@@ -174,7 +168,7 @@ public final class SpeakersTest {
 
     private static void told() {
         due.promise(3, "Of a SPEAKER: what 0 KIND, 1 EAR, 2 FAME, 3 SAID, 4 how many WORDS it has HEARD, 5 these, as a set, 6 KEEPS, 7 TAKES, 8 GOES, 9 WORTH.");
-        EchoFolk x = plain(1);
+        EchoFolk x = Due.plain(1);
         x.speaker(3, 7, 40);
         x.speaks(1, 19, 0, 19);
         x.says(1, 0, 1);
@@ -187,7 +181,7 @@ public final class SpeakersTest {
 
     private static void heard() {
         due.promise(4, "The WORD at place k (0 .. 11) of its HEARD (0: the oldest).");
-        EchoFolk x = plain(2);
+        EchoFolk x = Due.plain(2);
         Due.words(x, 0, 5, 6, 7, 8, 9, 10, 11, 12, 13, 14, 15, 0);
         for (int k = 0; k < 11; k++) due.is("heard(0, " + k + ")", x.heard(0, k), 5 + k);
         due.is("the last place", x.heard(0, 11), 0);
@@ -228,7 +222,7 @@ public final class SpeakersTest {
 
     private static void turns() {
         due.promise(6, "A SPEAKER is of another KIND from now on: what it was.");
-        EchoFolk x = plain(2);
+        EchoFolk x = Due.plain(2);
         Due.words(x, 0, 1, 2, 3);
         due.is("to the last kind", x.turns(0, 5), 0);
         due.is("kind", x.told(0, 0), 5);
@@ -248,7 +242,7 @@ public final class SpeakersTest {
 
     private static void set() {
         due.promise(7, "EAR, FAME (what 1, 2) of a SPEAKER becomes v: what it was.");
-        EchoFolk x = plain(2);
+        EchoFolk x = Due.plain(2);
         due.is("the least ear", x.set(0, 1, 1), 9);
         due.is("ear", x.told(0, 1), 1);
         due.is("the greatest ear", x.set(0, 1, 9), 1);
@@ -268,7 +262,7 @@ public final class SpeakersTest {
 
     private static void speaks() {
         due.promise(8, "Somebody from without speaks three WORDS (each 0 .. 19, or -1: none) to a SPEAKER, in order, which HEARS them: how many it has HEARD then.");
-        EchoFolk x = plain(3);
+        EchoFolk x = Due.plain(3);
         due.is("three", x.speaks(0, 19, 0, 7), 3);
         int[] heard = {19, 0, 7};
         for (int k = 0; k < 3; k++) due.is("in order", x.heard(0, k), heard[k]);
@@ -296,7 +290,7 @@ public final class SpeakersTest {
 
     private static void says() {
         due.promise(9, "BAD: also to itself;");
-        EchoFolk x = plain(3);
+        EchoFolk x = Due.plain(3);
         Due.words(x, 0, 1, 2, 3, 4, 5, 6, 7, 8, 9, 10, 11, 12);
         int[][] bad = {{0, 0, 0}, {0, 3, 0}, {3, 0, 0}, {-1, 0, 0}, {0, -1, 0}, {0, 1, -1}, {0, 1, 12}, {1, 1, 0},
             {0, 8, 0}, {0, MOST, 0}, {LEAST, 0, 0}, {0, 1, MOST}, {0, 1, LEAST}, {1, 0, 12}};
@@ -315,7 +309,7 @@ public final class SpeakersTest {
 
     private static void saysAPiece() {
         due.promise(9, "A SPEAKER speaks the piece of its HEARD from place k (0 .. 11) on, as many as it GOES (fewer, if there are no more), to another one, which HEARS it (SAID, SPOKEN as in a DAY): how many these are.");
-        EchoFolk x = plain(3);
+        EchoFolk x = Due.plain(3);
         Due.words(x, 0, 1, 2, 3, 4, 5);
         due.is("as many as it goes", x.says(0, 1, 1), 3);
         int[] heard = {2, 3, 4};
@@ -341,7 +335,7 @@ public final class SpeakersTest {
 
     private static void forgets() {
         due.promise(10, "A SPEAKER forgets all (LOST more by them): how many.");
-        EchoFolk x = plain(2);
+        EchoFolk x = Due.plain(2);
         due.is("nothing", x.forgets(0), 0);
         Due.words(x, 0, 1, 2, 3, 4, 5, 6, 7, 8, 9, 10, 11, 12);
         Due.words(x, 1, 1, 2);

@@ -100,7 +100,10 @@ public final class TextsTest {
             due.is("no key", Due.text(x, "1"), -100);
             due.is("a longer word", Due.text(x, keys[key] + "s 1"), -100);
             due.is("a shorter word", Due.text(x, keys[key].substring(1) + " 1"), -100);
-            due.is("another sort of letters", Due.text(x, keys[key].toUpperCase() + " 1"), -100);
+            for (int i = 0; i < keys[key].length(); i++) {
+                due.is("another letter", Due.text(x, keys[key].substring(0, i) + "x" + keys[key].substring(i + 1) + " 1"), -100);
+            }
+            due.is("other letters", Due.text(x, keys[key].toUpperCase() + " 1"), -100);
         }
     }
 
