@@ -306,6 +306,16 @@ public final class UnchangedTest {
         tells(x -> x.reads(0));
         tells(x -> x.fee());
         tells(x -> x.told(1, 6));
+        tells(x -> x.heard(1, 0));
+        tells(x -> x.as(1, 1));
+        tells(x -> x.folk(3));
+        tells(x -> x.fine(0));
+        tells(x -> x.textTold(2, 1));
+        tells(x -> x.why(2));
+        tells(x -> x.ask(1, 1));
+        tells(x -> x.item(2, 1));
+        tells(x -> x.rest(3, 7));
+        tells(x -> x.count(6));
     }
 
     private static void tells(Whole.Act call) {
