@@ -22,6 +22,7 @@ public final class LanguageTest {
     public static void main(String[] args) throws Exception {
         for (String broken : Rules.brokenBy(Files.readString(SOURCE))) due(false, broken);
         brokenRulesAreSeen();
+        othersAreSeenAmongThem();
         depthsAreSeen();
         face();
         constants();
@@ -98,6 +99,28 @@ public final class LanguageTest {
         seen(11, members(21, "private int a", ";"));
         seen(12, "private int[] f() { return new int[3]; }");
         seen(12, "private static class A { }\nprivate A f() { return new A(); }");
+    }
+
+    /** What cannot stand in a class without breaking other rules as well is among what is seen. */
+    private static void among(String broken, String source) throws Exception {
+        List<String> all = Rules.brokenBy(source);
+        due(all.stream().anyMatch(b -> b.matches(broken)), broken + " is seen among " + all + " by " + source);
+    }
+
+    private static void othersAreSeenAmongThem() throws Exception {
+        String[][] members = {{"rule 2, .*: a lambda", "private void f() { Runnable r = () -> { }; }"},
+            {"rule 2, .*: a method reference", "private void f() { Runnable r = this::g; }\nprivate void g() { }"},
+            {"rule 2, .*: an anonymous class", "private static class A { }\nprivate final A a;\npublic EchoFolk() { a = new A() { }; }"},
+            {"rule 2, .*: a class within .*", "private void f() { class Local { } }"},
+            {"rule 3, .*: the type float", "private int f(float v) { return v > 1 ? 1 : 0; }"},
+            {"rule 4, .*: something of the library.*", "private final String s;\npublic EchoFolk() { s = new String(); }"},
+            {"rule 4, .*: a call that is not understood", "private final int n = f();\nprivate static int f() { return 1; }"},
+            {"rule 6, .*: throw", "private void f() { throw new RuntimeException(); }"},
+            {"rule 6, .*: throws", "private void f() throws RuntimeException { }"},
+            {"rule 6, .*: catch", "private void f() { try { g(); } catch (RuntimeException e) { g(); } }\nprivate void g() { }"}};
+        for (String[] m : members) among(m[0], "public final class EchoFolk {\n" + m[1] + "\n}\n");
+        among("rule 4, .*: an import", "import java.util.List;\npublic final class EchoFolk { }\n");
+        among("rule 1, .*: a second class.*", "public final class EchoFolk { }\nfinal class Other { }\n");
     }
 
     private static String members(int many, String ahead, String behind) {
